@@ -1363,7 +1363,6 @@ public final class RaceHouse {
         int slipCount;
         final int[] outcomes = new int[8];
         private final int[] countersBefore = new int[8];
-        private final int[] slipsBefore = new int[MOST_SLIPS];
         private int slipCountBefore;
         private final int[] lent = new int[MOST_STEPS];
         private int lentCount;
@@ -1395,7 +1394,6 @@ public final class RaceHouse {
 
         private void prepare() {
             System.arraycopy(counters, 0, countersBefore, 0, counters.length);
-            System.arraycopy(slips, 0, slipsBefore, 0, slips.length);
             slipCountBefore = slipCount;
             Arrays.fill(outcomes, 0);
             Arrays.fill(holds, 0);
@@ -1414,7 +1412,7 @@ public final class RaceHouse {
             if (outcomes[FAILED_BY] == 0 && outcomes[PUSHED_ASIDE] == 0) return;
             outcomes[UNDONE] = 1;
             System.arraycopy(countersBefore, 0, counters, 0, counters.length);
-            System.arraycopy(slipsBefore, 0, slips, 0, slips.length);
+            // a step prints only behind the last SLIP, so those of before are still there
             slipCount = slipCountBefore;
         }
 

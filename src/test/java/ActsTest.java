@@ -244,6 +244,11 @@ public final class ActsTest {
         act("l3 t{h1{v1 r7{r7{r7{w0 1}}}}}c0{w1 1}f{w2 1}w3 1", -20);
         outcome("no c and no f", 8, 0, 200, 1, 1, 1, 1, 4);
         counters("nothing", 0, 0, 0, 0);
+        act("v1", -17);
+        act("x2", -12);
+        outcome("nothing left of the act before", 2, 0, 1, 0, 0, 1, 0, 0);
+        act("t{r7{r7{r7{w0 1}}}}f{a1}", -20);
+        act("a3", 103);
         act("t{x2}f{r7{r7{r7{w0 1}}}}", -20);
         outcome("within f", 8, 0, 200, 0, 0, 1);
         act("w0 1 r7{r7{r3{w1 1}}} w2 1", -20);

@@ -64,7 +64,9 @@ public final class ClocksTest {
         Due.due("P39 the first line", x.hut(2, 0, 10), 20);
         Due.due("P39 the last line", x.hut(2, 7, 10), 50);
         Due.due("P39 one between", x.hut(2, 3, 10), Due.LOST);
-        Due.due("P39 line 8", x.hut(2, 8, 10), Due.LOST);
+        x.mark(3, 4, 4);
+        Due.due("P39 line 8 is not the next mat's first", x.hut(2, 8, 10), Due.LOST);
+        Due.due("P39 line 9", x.hut(5, 9, 10), Due.LOST);
         Due.due("P39 line -1", x.hut(2, -1, 10), Due.LOST);
         x.mark(1, 5, 5);
         Due.due("P39 a line that is not there", x.hut(1, 1, 5), Due.LOST);
@@ -212,6 +214,11 @@ public final class ClocksTest {
         Due.due("P44 mat -1", x.passes(-1, 0), Due.UNKNOWN);
         Due.due("P44 bib", x.passes(0, 20), Due.UNKNOWN);
         Due.due("P44 bib -1", x.passes(0, -1), Due.UNKNOWN);
+        x.read(0, 9, 50, 50);
+        x.mark(1, 0, 0);
+        x.read(1, 9, 50, 50);
+        Due.due("P44 nobody's are not those of bib -1", x.passes(0, -1), Due.UNKNOWN);
+        Due.due("P45 nobody's are not those of bib -1", x.pass(0, -1, 0), Due.LOST);
         Due.due("P45 mat", x.pass(6, 0, 0), Due.LOST);
         Due.due("P45 bib", x.pass(0, 20, 0), Due.LOST);
         Due.due("P45 bib -1", x.pass(0, -1, 0), Due.LOST);

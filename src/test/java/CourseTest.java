@@ -17,6 +17,8 @@ public final class CourseTest {
         joins();
         times();
         hands();
+        handsAtZero();
+        eachBibAndPlaceAlone();
         ranksOfSources();
         penalties();
         states();
@@ -88,6 +90,8 @@ public final class CourseTest {
         reads(1, 2, 100);
         reads(0, 2, 300, 350);
         fit("not the first place", 2, none, 100, 300);
+        Due.due("P48 asked ahead of fit()", x.used(0, 0), 900);
+        Due.due("P48 of one bib, then another", x.used(1, 0), 500);
         fresh();
         for (int i = 0; i < 4; i++) x.place(2, 0);
         reads(2, 3, 70, 80);
@@ -202,6 +206,33 @@ public final class CourseTest {
         }
     }
 
+    private static void handsAtZero() {
+        x = new RaceHouse();
+        x.place(0, 0);
+        x.time(4, 0, 0, 0);
+        Due.due("P53 at 0", x.merged(0, 0), 0);
+        x.time(4, 0, 0, 5);
+        Due.due("P53 0 and 5", x.merged(0, 0), 5);
+        x.time(4, 0, 0, 0);
+        Due.due("P53 0, 5 and 0", x.merged(0, 0), 0);
+        Due.due("P52 a fourth at 0", x.time(4, 0, 0, 0), Due.FULL);
+        x.time(4, 1, 0, 7);
+        x.time(4, 1, 0, 5);
+        x.time(4, 1, 0, 0);
+        Due.due("P53 7, 5 and 0", x.merged(1, 0), 5);
+    }
+
+    private static void eachBibAndPlaceAlone() {
+        for (int source : new int[] {0, 1, 3, 4}) {
+            x = new RaceHouse();
+            for (int place = 0; place < 8; place++) x.place(0, 0);
+            for (int bib = 0; bib < 20; bib++) for (int place = 0; place < 8; place++) x.time(source, bib, place, 100 * bib + place);
+            for (int bib = 0; bib < 20; bib++) {
+                for (int place = 0; place < 8; place++) Due.due("P53 its own", x.merged(bib, place), 100 * bib + place);
+            }
+        }
+    }
+
     private static void ranksOfSources() {
         fresh();
         x.place(0, 0);
@@ -230,7 +261,8 @@ public final class CourseTest {
         Due.due("P55 ms -1", x.penalty(0, 0, -1), Due.OUTSIDE);
         Due.due("P55 ms beyond", x.penalty(0, 0, 1000001), Due.OUTSIDE);
         Due.due("P55 ms at the end", x.penalty(0, 0, 1000000), 0);
-        for (int i = 1; i < 60; i++) Due.due("P55 others' ms", x.penalty(i % 20, 1 + i % 4, i % 2 == 0 ? -5 : 2000000), i);
+        Due.due("P55 ms 0", x.penalty(0, 0, 0), 1);
+        for (int i = 2; i < 60; i++) Due.due("P55 others' ms", x.penalty(i % 20, 1 + i % 4, i % 2 == 0 ? -5 : 2000000), i);
         Due.due("P55 full", x.penalty(0, 1, 0), Due.FULL);
         Due.due("P68 penalties", x.told(9), 60);
         Due.due("P56 back", x.back(59), 1);

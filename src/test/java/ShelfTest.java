@@ -18,6 +18,7 @@ public final class ShelfTest {
         likes();
         copies();
         copiesWhenFull();
+        copiesWhenOthersAreFull();
         shiftRows();
         shiftRacks();
         limits();
@@ -278,6 +279,12 @@ public final class ShelfTest {
         Due.due("P14 a row and nothing", x.alike(1, 0), 0);
         x.row(1, 4, 2);
         Due.due("P14 rows", x.alike(0, 1), 1);
+        for (int i = 0; i < 2; i++) {
+            x.put(0, 4, i, 1);
+            Due.due("P14 another item " + i, x.alike(0, 1), 0);
+            x.put(0, 4, i, 0);
+            Due.due("P14 as before", x.alike(0, 1), 1);
+        }
         x.put(0, 4, 1, Due.bits(-0.0));
         Due.due("P14 zeros told otherwise", x.alike(0, 1), 0);
         x.put(0, 4, 1, -1);
@@ -439,6 +446,29 @@ public final class ShelfTest {
         for (int i = 0; i < 294; i++) x.row(1, 2, 0);
         Due.due("P6 six left, seven wanted", x.grid(1, 7, 1), Due.FULL);
         Due.due("P6 six left, six wanted", x.grid(1, 6, 1), 1);
+    }
+
+    private static void copiesWhenOthersAreFull() {
+        x = new RaceHouse();
+        x.grid(0, 1, -1);
+        x.pen(1, 9, 1);
+        for (int i = 0; i < 29; i++) x.grid(2, 0, -1);
+        Due.due("P15 a pen where grids are full", x.copy(3, 1, true), 1);
+        Due.due("P15 a grid where grids are full", x.copy(3, 0, true), Due.FULL);
+        x = new RaceHouse();
+        x.grid(0, 1, -1);
+        x.pen(1, 9, 1);
+        for (int i = 0; i < 19; i++) x.pen(2, 9, 0);
+        Due.due("P15 a grid where pens are full", x.copy(3, 0, true), 1);
+        Due.due("P15 a pen where pens are full", x.copy(3, 1, true), Due.FULL);
+        x.member(4, 10);
+        x.lead(1, 0, 4);
+        for (int i = 0; i < 39; i++) x.member(5, 10);
+        x.copy(6, 0, false);
+        Due.due("P15 a member where members are full", x.copy(6, 4, false), Due.FULL);
+        Due.due("P15 a row where those are full", x.copy(6, 29, false), 1);
+        x.row(7, 2, 1);
+        Due.due("P15 a row where others are full", x.copy(6, 7, false), 1);
     }
 
     private static void shiftRows() {
