@@ -248,6 +248,7 @@ public final class ActsTest {
         act("x2", -12);
         outcome("nothing left of the act before", 2, 0, 1, 0, 0, 1, 0, 0);
         act("t{r7{r7{r7{w0 1}}}}f{a1}", -20);
+        act("t{}c2{}x2", -12);
         act("a3", 103);
         act("t{x2}f{r7{r7{r7{w0 1}}}}", -20);
         outcome("within f", 8, 0, 200, 0, 0, 1);

@@ -265,6 +265,11 @@ public final class CourseTest {
         for (int i = 2; i < 60; i++) Due.due("P55 others' ms", x.penalty(i % 20, 1 + i % 4, i % 2 == 0 ? -5 : 2000000), i);
         Due.due("P55 full", x.penalty(0, 1, 0), Due.FULL);
         Due.due("P68 penalties", x.told(9), 60);
+        x.place(0, 0);
+        x.gun(0, 0);
+        x.time(0, 0, 0, 5);
+        Due.due("P57 where it is full", x.state(0), 1);
+        Due.due("P58 where it is full", x.result(0), 1000005);
         Due.due("P56 back", x.back(59), 1);
         Due.due("P56 it was", x.back(59), 0);
         Due.due("P56 beyond", x.back(60), Due.UNKNOWN);

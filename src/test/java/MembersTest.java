@@ -268,6 +268,7 @@ public final class MembersTest {
         Due.due("P24 n 12", x.pen(0, 9, 12), 1);
         Due.due("P24 size", x.size(0, 20), 12);
         Due.due("P24 n 0", x.pen(1, 9, 0), 1);
+        Due.due("P24 no spots", x.size(1, 20), 0);
         Due.due("P24 n 13", x.pen(0, 9, 13), Due.OUTSIDE);
         Due.due("P24 n -1", x.pen(0, 9, -1), Due.SIZE);
         Due.due("P24 box", x.pen(30, 8, 13), Due.UNKNOWN);

@@ -140,6 +140,7 @@ public final class RealTest {
         Due.due("P29 empty", x.gap(0, 5), 0);
         lost("P29 nothing", x.gap(1, 6), 1);
         lost("P29 box", x.gap(30, 0), 1);
+        fill(4, 3.0, 4.0);
         lost("P29 op 7", x.gap(0, 7), 1);
         lost("P29 op -1", x.gap(0, -1), 1);
         for (int type : new int[] {1, 2, 5, 6, 7}) {

@@ -157,6 +157,7 @@ public final class ShelfTest {
         Due.due("P6 no rows made", x.told(0), 8);
         Due.due("P6 no row there", x.setSplit(1, 0, 0, 1), Due.NULL);
         Due.due("P6 of none", x.grid(2, 0, 3), 1);
+        Due.due("P6 no places", x.size(2, 8), 0);
         Due.due("P6 rows of none", x.grid(3, 2, 0), 1);
         Due.due("P6 item of none", x.setSplit(3, 1, 0, 1), Due.INDEX);
         Due.due("P6 box", x.grid(30, 9, 13), Due.UNKNOWN);
