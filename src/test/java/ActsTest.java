@@ -275,6 +275,7 @@ public final class ActsTest {
         for (int i = 0; i < 98; i++) plan.append('}');
         act(plan.toString(), -11);
         outcome("98 holds", 1, 0, 100, 0, 98, 1, 1);
+        x = new RaceHouse();
         plan.setLength(0);
         for (int i = 0; i < 200; i++) plan.append("t{");
         wrong(plan.toString(), 400);
@@ -284,6 +285,7 @@ public final class ActsTest {
         for (int i = 0; i < 56; i++) plan.append("}f{}");
         act(plan.toString(), -11);
         outcome("56 deep with f", 1, 0, 57);
+        x = new RaceHouse();
         plan.setLength(0);
         for (int i = 0; i < 100; i++) plan.append("l1");
         for (int i = 0; i < 100; i++) plan.append("g1");
@@ -615,15 +617,19 @@ public final class ActsTest {
     private static void atRandom() {
         Oracle oracle = new Oracle();
         x = new RaceHouse();
+        int calls = 0;
         for (int turn = 0; turn < 60000; turn++) {
-            if (turn % 20 == 0) {
+            // the next plan may take 50 calls of feed, and all slips may be asked
+            if (calls > 380) {
                 oracle = new Oracle();
                 x = new RaceHouse();
+                calls = 0;
             }
             String plan = some(RANDOM.nextInt(6), 1 + RANDOM.nextInt(7));
             if (turn % 3 == 0) plan = spoilt(plan);
             if (plan.length() > 400) continue;
             int want = oracle.act(plan);
+            calls += plan.length() / 8 + 21 + oracle.slips.size();
             act(plan, want);
             outcome(plan, oracle.failed, oracle.aside, oracle.steps, oracle.back, oracle.most, oracle.undone, oracle.wakings,
                 oracle.backOrder);

@@ -21,12 +21,13 @@ final class Due {
 
     /** Feeds a text to THE TAPE, up to 8 bytes a call. */
     static void tape(RaceHouse x, String text) {
+        int has = x.told(5);
         for (int i = 0; i < text.length(); i += 8) {
             String part = text.substring(i, Math.min(text.length(), i + 8));
             long w = 0;
             for (char c : part.toCharArray()) w = w << 8 | c;
-            int had = x.told(5);
-            due("P32 feed(" + part + ")", x.feed(w, part.length()), had + part.length());
+            has += part.length();
+            due("P32 feed(" + part + ")", x.feed(w, part.length()), has);
         }
     }
 

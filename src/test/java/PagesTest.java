@@ -187,11 +187,12 @@ public final class PagesTest {
 
     private static void atRandom() {
         Random random = new Random(61);
-        for (int run = 0; run < 300; run++) {
+        for (int run = 0; run < 600; run++) {
             x = new RaceHouse();
             int[][] sectors = new int[24][16];
             int power = -1;
-            for (int turn = 0; turn < 60; turn++) {
+            // a turn takes up to 62 calls
+            for (int calls = 1; calls <= 450; calls++) {
                 int s = random.nextInt(24);
                 int from = random.nextInt(24);
                 switch (random.nextInt(7)) {
@@ -213,10 +214,13 @@ public final class PagesTest {
                         int[] page = page(1 + random.nextInt(6), random.nextInt(2));
                         lay(s, page);
                         sectors[s] = page;
+                        calls += 32;
                     }
                     default -> power = keepAtRandom(sectors, power, random.nextLong() >> random.nextInt(64));
                 }
+                if (random.nextInt(3) > 0) continue;
                 checkPages(sectors);
+                calls += 30;
             }
         }
     }

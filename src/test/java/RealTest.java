@@ -66,8 +66,8 @@ public final class RealTest {
     }
 
     private static void wholesAtRandom() {
-        x = new RaceHouse();
         for (int turn = 0; turn < 20000; turn++) {
+            if (turn % 170 == 0) x = new RaceHouse();
             long a = RANDOM.nextLong() >> RANDOM.nextInt(64);
             long b = RANDOM.nextLong() >> RANDOM.nextInt(64);
             Due.due("P28 over midnight " + a + " " + b, x.whole(4, a, b), Math.floorMod(b - a, 86400000L));
@@ -174,7 +174,7 @@ public final class RealTest {
 
     private static void gapsAtRandom() {
         for (int turn = 0; turn < 60000; turn++) {
-            if (turn % 250 == 0) x = new RaceHouse();
+            if (turn % 18 == 0) x = new RaceHouse();
             int n = 1 + RANDOM.nextInt(turn % 3 == 0 ? 20 : 3);
             int kind = RANDOM.nextInt(7);
             double[] items = new double[n];
@@ -222,6 +222,7 @@ public final class RealTest {
     }
 
     private static void checkTest(long p, long q) {
+        x = new RaceHouse();
         double a = Double.longBitsToDouble(p);
         double b = Double.longBitsToDouble(q);
         float c = (float) a;
@@ -264,7 +265,7 @@ public final class RealTest {
 
     private static void rankedAtRandom() {
         for (int turn = 0; turn < 3000; turn++) {
-            if (turn % 100 == 0) x = new RaceHouse();
+            if (turn % 11 == 0) x = new RaceHouse();
             double[] items = new double[RANDOM.nextInt(21)];
             Integer[] order = new Integer[items.length];
             for (int i = 0; i < items.length; i++) {

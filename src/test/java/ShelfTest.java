@@ -110,9 +110,11 @@ public final class ShelfTest {
 
     private static void floatsAsJavaCasts() {
         Random random = new Random(5);
-        x = new RaceHouse();
-        x.row(0, 3, 1);
         for (int turn = 0; turn < 200000; turn++) {
+            if (turn % 250 == 0) {
+                x = new RaceHouse();
+                x.row(0, 3, 1);
+            }
             long v = random.nextLong();
             if (turn % 4 == 1) v = nearAFloat(random, v);
             if (turn % 4 == 2) v = Due.bits((random.nextInt(4000) - 2000) / 2.0 * Float.MIN_VALUE) + random.nextInt(3) - 1;

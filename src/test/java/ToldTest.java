@@ -99,7 +99,8 @@ public final class ToldTest {
                 Object[] args = new Object[m.getParameterCount()];
                 for (int a = 0; a < args.length; a++) args[a] = someValue(random, m.getParameterTypes()[a]);
                 long answer = call(m, args);
-                if (m.getReturnType() == int.class && answer <= -11 && answer >= -17 && !m.getName().equals("act")) {
+                if (i < 511 && m.getReturnType() == int.class && answer <= -11 && answer >= -17 && !m.getName().equals("act")) {
+                    i++;
                     boolean fine = x.fault() == -10 - answer || m.getName().matches("alter|byteOf|outcome");
                     if (!fine) Due.due("P69 fault of " + m.getName(), x.fault(), -10 - answer);
                 }
