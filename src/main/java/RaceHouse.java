@@ -1861,8 +1861,7 @@ public final class RaceHouse {
             return t < 0 ? 1 : FULL;
         }
 
-        private long handsTime(int bib, int place) {
-            int from = slotsOf(bib, place) + HANDS;
+        private long handsTime(int from) {
             int a = given[from];
             int b = given[from + 1];
             int c = given[from + 2];
@@ -1873,8 +1872,9 @@ public final class RaceHouse {
 
         private long timeOf(int source, int bib, int place) {
             if (source == CHIP_SOURCE) return fit.chosen[place];
-            if (source == HANDS) return handsTime(bib, place);
-            int t = given[slotsOf(bib, place) + source];
+            int slot = slotsOf(bib, place) + source;
+            if (source == HANDS) return handsTime(slot);
+            int t = given[slot];
             return t < 0 ? LOST : t;
         }
 
